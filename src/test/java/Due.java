@@ -1,0 +1,32 @@
+/** Compares answers with the ones that are due, prints those that are not, and ends a test. */
+final class Due {
+    private int wrong = 0;
+    private int asked = 0;
+
+    void is(String call, long got, long want) {
+        asked++;
+        if (got != want) {
+            wrong++;
+            System.out.println(call + " answered " + got + ", due is " + want);
+        }
+    }
+
+    void isTrue(String what, boolean holds) {
+        asked++;
+        if (!holds) {
+            wrong++;
+            System.out.println("not so: " + what);
+        }
+    }
+
+    boolean hasWrong() {
+        return wrong > 0;
+    }
+
+    void end() {
+        System.out.println(asked + " answers, " + wrong + " not as due");
+        if (wrong > 0 || asked == 0) {
+            System.exit(1);
+        }
+    }
+}
