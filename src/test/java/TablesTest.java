@@ -1,8 +1,6 @@
 /** Promises 1 to 9: a new object, one, gate, ahead, times, turn, part, e, phase. */
 public final class TablesTest {
     private static final int H = 0, T = 1, S = 2, X = 3, Z = 4, W = 5, U = 6;
-    private static final int[] NO_REGISTERS = {-1, 4, 5, Integer.MIN_VALUE, Integer.MAX_VALUE};
-    private static final int[] NO_GATES = {-1, 7, 8, Integer.MIN_VALUE, Integer.MAX_VALUE};
     private static final Due due = new Due();
 
     public static void main(String[] args) {
@@ -54,7 +52,7 @@ public final class TablesTest {
         isUnit("one", g, 3);
         due.is("one(3) again", g.one(3), 0);
         due.is("register 2 stays", g.e(2), 1);
-        for (int r : NO_REGISTERS) {
+        for (int r : Bench.NO_REGISTERS) {
             due.is("one", g.one(r), RootGates.BAD);
             due.is("e", g.e(r), RootGates.BAD);
         }
@@ -80,10 +78,10 @@ public final class TablesTest {
         due.is("H H", g.gate(1, H), 0);
         isUnit("H H", g, 1);
         isUnit("register 2 stays", g, 2);
-        for (int bad : NO_REGISTERS) {
+        for (int bad : Bench.NO_REGISTERS) {
             due.is("gate r", g.gate(bad, H), RootGates.BAD);
         }
-        for (int bad : NO_GATES) {
+        for (int bad : Bench.NO_GATES) {
             due.is("gate gate", g.gate(1, bad), RootGates.BAD);
         }
         isUnit("after BAD", g, 1);
@@ -104,10 +102,10 @@ public final class TablesTest {
         isTable("Z U S X T H", g, 0, 1, 0, 1, 0, 0, 0, -1, 0, 0, 0, -1, 0, 0, 0, -1, 0, 0);
         due.is("ahead(0, W)", g.ahead(0, W), 1);
         isTable("W Z U S X T H", g, 0, 1, 0, 0, 1, 0, 0, 0, -1, 0, 0, 0, -1, 0, 0, 0, -1, 0);
-        for (int bad : NO_REGISTERS) {
+        for (int bad : Bench.NO_REGISTERS) {
             due.is("ahead r", g.ahead(bad, H), RootGates.BAD);
         }
-        for (int bad : NO_GATES) {
+        for (int bad : Bench.NO_GATES) {
             due.is("ahead gate", g.ahead(1, bad), RootGates.BAD);
         }
         isUnit("after BAD", g, 1);
@@ -124,7 +122,7 @@ public final class TablesTest {
         due.is("times(2, 2, 3)", g.times(2, 2, 3), 1);
         // 1 + ww over 2 is w over R, 1 - ww over 2 is -www over R
         isTable("H T T H", g, 2, 1, 0, 1, 0, 0, 0, 0, 0, -1, 0, 0, 0, -1, 0, 1, 0, 0);
-        for (int bad : NO_REGISTERS) {
+        for (int bad : Bench.NO_REGISTERS) {
             due.is("times r", g.times(bad, 0, 0), RootGates.BAD);
             due.is("times s", g.times(0, bad, 0), RootGates.BAD);
             due.is("times t", g.times(0, 0, bad), RootGates.BAD);
@@ -141,7 +139,7 @@ public final class TablesTest {
         isTable("H T turned", g, 0, 1, 1, 0, 0, 0, 1, 0, 0, 0, 0, 0, 0, -1, 0, 0, 0, 1);
         due.is("turn(0)", g.turn(0), 1);
         isTable("twice", g, 0, 1, 1, 0, 0, 0, 0, 1, 0, 0, 1, 0, 0, 0, 0, -1, 0, 0);
-        for (int bad : NO_REGISTERS) {
+        for (int bad : Bench.NO_REGISTERS) {
             due.is("turn", g.turn(bad), RootGates.BAD);
         }
     }
@@ -152,7 +150,7 @@ public final class TablesTest {
         due.is("part", g.part(2, 0, 0, 1), 1);
         due.is("part", g.part(2, 1, 1, 1), 1);
         due.is("part", g.part(2, 0, 1, 1), 0);
-        for (int bad : NO_REGISTERS) {
+        for (int bad : Bench.NO_REGISTERS) {
             due.is("part r", g.part(bad, 0, 0, 0), RootGates.VOID);
             due.is("part i", g.part(0, 0, 0, bad), RootGates.VOID);
         }
@@ -175,7 +173,7 @@ public final class TablesTest {
         due.is("phase by none", g.phase(0, 2), RootGates.NOT);
         g.gate(2, T);
         due.is("phase of T by 1", g.phase(2, 3), RootGates.NOT);
-        for (int bad : NO_REGISTERS) {
+        for (int bad : Bench.NO_REGISTERS) {
             due.is("phase r", g.phase(bad, 0), RootGates.BAD);
             due.is("phase s", g.phase(0, bad), RootGates.BAD);
         }
