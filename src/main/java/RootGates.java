@@ -498,18 +498,24 @@ public final class RootGates {
             }
         }
 
-        /** This times a gate: the gate mixes the two numbers of each row. */
+        /** This times a gate, which mixes the two numbers of each row; by all gates but H lowest form stays. */
         void applyBehind(int gate) {
             applyToPair(gate, placeOf(0, 0), placeOf(0, 1));
             applyToPair(gate, placeOf(1, 0), placeOf(1, 1));
-            raiseBy(gate);
+            if (gate == H) {
+                e++;
+                lower();
+            }
         }
 
         /** A gate times this: as every gate's table is its own mirror, the same is done to each column. */
         void applyAhead(int gate) {
             applyToPair(gate, placeOf(0, 0), placeOf(1, 0));
             applyToPair(gate, placeOf(0, 1), placeOf(1, 1));
-            raiseBy(gate);
+            if (gate == H) {
+                e++;
+                lower();
+            }
         }
 
         private void applyToPair(int gate, int p, int q) {
@@ -538,14 +544,6 @@ public final class RootGates {
                     break;
                 default:
                     break;
-            }
-        }
-
-        /** Only H brings an R below the line; by the other gates lowest form stays. */
-        private void raiseBy(int gate) {
-            if (gate == H) {
-                e++;
-                lower();
             }
         }
 
@@ -623,28 +621,19 @@ public final class RootGates {
 
         void makeOf(Table table) {
             turned.makeTurned(table);
-            for (int j = 0; j < PAULIS; j++) {
-                moved.makeCopy(table);
-                applyPauli(j);
-                seen.makeProduct(moved, turned);
-                fillColumn(j);
-            }
+            moved.makeCopy(table);
+            moved.applyBehind(X);
+            fillColumn(0);
+            // P 1 is X, then Z, times ww
+            moved.applyBehind(Z);
+            moved.applyBehind(W);
+            moved.applyBehind(W);
+            fillColumn(1);
+            moved.makeCopy(table);
+            moved.applyBehind(Z);
+            fillColumn(2);
             f = 2 * table.e + 2;
             lower();
-        }
-
-        /** P 1 is X, then Z, times ww. */
-        private void applyPauli(int j) {
-            if (j != 2) {
-                moved.applyBehind(X);
-            }
-            if (j != 0) {
-                moved.applyBehind(Z);
-            }
-            if (j == 1) {
-                moved.applyBehind(W);
-                moved.applyBehind(W);
-            }
         }
 
         /**
@@ -653,6 +642,7 @@ public final class RootGates {
          * z; each stands here doubled, for which f is 2 more.
          */
         private void fillColumn(int j) {
+            seen.makeProduct(moved, turned);
             int p = Table.placeOf(0, 1);
             x[j] = 2 * seen.parts[p];
             y[j] = seen.parts[p + 1] - seen.parts[p + 3];
@@ -1347,11 +1337,16 @@ public final class RootGates {
             }
             size = from;
             for (int i = many - 1; i >= 0; i--) {
-                addTurned(spare[i]);
+                int width = widthOf(spare[i]);
+                for (int j = 0; j < width && size < row.length; j++) {
+                    row[size] = turnedGate(spare[i], j);
+                    size++;
+                }
             }
             return true;
         }
 
+        /** How many gates a turned one is. */
         private static int widthOf(int gate) {
             if (gate == S) {
                 return TURNED_S;
@@ -1359,31 +1354,17 @@ public final class RootGates {
             return gate == W ? TURNED_W : 1;
         }
 
-        private void addTurned(int gate) {
+        /** The j-th of them. */
+        private static int turnedGate(int gate, int j) {
             switch (gate) {
                 case T:
-                    append(U, 1);
-                    break;
+                    return U;
                 case U:
-                    append(T, 1);
-                    break;
+                    return T;
                 case S:
-                    append(S, 1);
-                    append(Z, 1);
-                    break;
-                case W:
-                    append(W, TURNED_W);
-                    break;
+                    return j == 0 ? S : Z;
                 default:
-                    append(gate, 1);
-                    break;
-            }
-        }
-
-        private void append(int gate, int many) {
-            for (int i = 0; i < many && size < row.length; i++) {
-                row[size] = gate;
-                size++;
+                    return gate;
             }
         }
     }

@@ -19,6 +19,7 @@ public final class ChannelsTest {
         for (int at = 0; at < 18; at++) {
             int i = at / 6;
             int j = at / 2 % 3;
+            due.is("another register", g.channel(3, 2, 2, 0), 1);
             due.is(gates + ": channel " + i + " " + j + " " + at % 2, g.channel(2, i, j, at % 2), xy[at]);
         }
     }

@@ -12,6 +12,7 @@ public final class TablesTest {
         turn();
         part();
         phase();
+        eachByItself();
         highest();
         due.end();
     }
@@ -177,6 +178,20 @@ public final class TablesTest {
             due.is("phase r", g.phase(bad, 0), RootGates.BAD);
             due.is("phase s", g.phase(0, bad), RootGates.BAD);
         }
+    }
+
+    /** A call on one register has nothing of another one in it. */
+    private static void eachByItself() {
+        RootGates g = new RootGates();
+        g.gate(0, H);
+        g.gate(1, T);
+        g.ahead(2, S);
+        g.ahead(0, T);
+        isTable("T H", g, 0, 1, 1, 0, 0, 0, 1, 0, 0, 0, 0, 1, 0, 0, 0, -1, 0, 0);
+        g.gate(1, X);
+        isTable("T X", g, 1, 0, 0, 0, 0, 0, 1, 0, 0, 0, 0, 1, 0, 0, 0, 0, 0, 0);
+        isTable("S", g, 2, 0, 1, 0, 0, 0, 0, 0, 0, 0, 0, 0, 0, 0, 0, 0, 1, 0);
+        isUnit("no call on it", g, 3);
     }
 
     /** E of 40 is held, E above it is refused and leaves all as it was. */

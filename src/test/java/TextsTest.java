@@ -12,6 +12,7 @@ public final class TextsTest {
         fullOnTheWay();
         faultAheadOfFull();
         tapeBehindEachCall();
+        nextAfterFull();
         allShortTexts();
         due.end();
     }
@@ -158,6 +159,10 @@ public final class TextsTest {
         isText("~~W~WHHHH", "W".repeat(56) + "HHHH");
         isText("~(S)9~(S)9~(S)9~(S)3", "SZ".repeat(30));
         isRefused("~(S)9~(S)9~(S)9~(S)3H", RootGates.FULL);
+        isText("~(" + "H".repeat(60) + ")", "H".repeat(60));
+        isText("~(" + "T".repeat(60) + ")", "U".repeat(60));
+        isText("~(" + "S".repeat(30) + ")", "SZ".repeat(30));
+        isRefused("~(" + "S".repeat(31) + ")", RootGates.FULL);
     }
 
     /** An item, or all items in a group, may be too much though a figure 0 follows. */
@@ -174,6 +179,10 @@ public final class TextsTest {
         isText("(HTSXZ)9((HTSXZ)9(((HTSXZ)9)0)0)0", "HTSXZ".repeat(9));
         isText("(H)9((W)9(W)9(W)9(W)9(W)9(W)9)0(T)9", "H".repeat(9) + "T".repeat(9));
         isRefused("(~((W)9))0", RootGates.FULL);
+        isRefused("(~(S)9~(S)9~(S)9~(S)4)0", RootGates.FULL);
+        isText("(~(S)9~(S)9~(S)9~(S)3)0", "");
+        String sixty = "~~W~WHHHH";
+        isText((sixty + "(").repeat(4) + sixty + ")0".repeat(4), "W".repeat(56) + "HHHH");
         isText("~((W)9)0", "");
         isText("~((W)9)0~((W)9)0H", "H");
     }
@@ -199,6 +208,17 @@ public final class TextsTest {
         due.is("feed from none", g.feed('X'), 1);
         due.is("write", g.write(0), 1);
         due.is("write of none", g.write(0), -100);
+    }
+
+    /** Nothing of a text that was too much comes to the next one. */
+    private static void nextAfterFull() {
+        RootGates g = new RootGates();
+        for (String text : new String[] {"((~~~W))", "~(HTSXZWU)9", "(((~(HTSXZWU)9)))2", "HHH~((W)9)"}) {
+            due.is("FULL", Bench.write(g, 0, text), RootGates.FULL);
+            due.is("write of (T)2S", Bench.write(g, 0, "(T)2S"), 3);
+            due.isTrue("T T S behind " + text, Bench.word(g, 0).equals("TTS"));
+            due.is("a long one", Bench.write(g, 1, "H".repeat(60)), 60);
+        }
     }
 
     /** Every text of up to five signs, compared with the model. */
