@@ -27,18 +27,46 @@ final class Bench {
 
     static String word(RootGates g, int word) {
         StringBuilder text = new StringBuilder();
-        for (int i = 0; g.word(word, i) >= 0; i++) {
-            text.append(LETTERS.charAt(g.word(word, i)));
+        int gate = g.word(word, 0);
+        for (int i = 1; gate >= 0; i++) {
+            text.append(LETTERS.charAt(gate));
+            gate = g.word(word, i);
         }
         return text.toString();
     }
 
     static String cheapest(RootGates g, int k) {
         StringBuilder text = new StringBuilder();
-        for (int i = 0; g.cheapest(k, i) >= 0; i++) {
-            text.append(LETTERS.charAt(g.cheapest(k, i)));
+        int gate = g.cheapest(k, 0);
+        for (int i = 1; gate >= 0; i++) {
+            text.append(LETTERS.charAt(gate));
+            gate = g.cheapest(k, i);
         }
         return text.toString();
+    }
+
+    /** E and all parts of a register, row by row. */
+    static String table(RootGates g, int r) {
+        StringBuilder text = new StringBuilder().append(g.e(r)).append(':');
+        for (int i = 0; i < 16; i++) {
+            text.append(i % 4 == 0 ? " | " : " ").append(g.part(r, i / 8, i / 4 % 2, i % 4));
+        }
+        return text.toString();
+    }
+
+    /** A new object whose words are these. */
+    static RootGates with(String... words) {
+        RootGates g = new RootGates();
+        for (int word = 0; word < words.length; word++) {
+            push(g, word, words[word]);
+        }
+        return g;
+    }
+
+    static void push(RootGates g, int word, String gates) {
+        for (char c : gates.toCharArray()) {
+            g.push(word, gate(c));
+        }
     }
 
     /** A register becomes the product of gates told in letters. */
@@ -47,5 +75,16 @@ final class Bench {
         for (char c : gates.toCharArray()) {
             g.gate(r, gate(c));
         }
+    }
+
+    /** Registers become H T, 79 times, whose E is 40 and by H behind it would be 41, in few calls; another one 1. */
+    static void makeHighest(RootGates g, int r, int spare) {
+        make(g, spare, "HT".repeat(13));
+        g.times(spare, spare, spare);
+        g.times(r, spare, spare);
+        g.times(r, r, spare);
+        g.gate(r, 0);
+        g.gate(r, 1);
+        g.one(spare);
     }
 }

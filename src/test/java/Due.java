@@ -2,12 +2,26 @@
 final class Due {
     private int wrong = 0;
     private int asked = 0;
+    private String subject = "";
+
+    /** The answers from here on are due by this sentence of the document, in a call of this promise. */
+    void about(int promise, String sentence) {
+        subject = "promise " + promise + ", \"" + sentence + "\": ";
+    }
 
     void is(String call, long got, long want) {
         asked++;
         if (got != want) {
             wrong++;
-            System.out.println(call + " answered " + got + ", due is " + want);
+            System.out.println(subject + call + " answered " + got + ", due is " + want);
+        }
+    }
+
+    void isText(String what, String got, String want) {
+        asked++;
+        if (!got.equals(want)) {
+            wrong++;
+            System.out.println(subject + what + " is " + got + ", due is " + want);
         }
     }
 
@@ -15,7 +29,7 @@ final class Due {
         asked++;
         if (!holds) {
             wrong++;
-            System.out.println("not so: " + what);
+            System.out.println(subject + "not so: " + what);
         }
     }
 

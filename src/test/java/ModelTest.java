@@ -189,42 +189,6 @@ public final class ModelTest {
             return;
         }
         made++;
-        due.is(name + ", call " + made + ": " + call + Arrays.toString(a), answer(call, a), model.call(call, a));
-    }
-
-    private long answer(String call, int[] a) {
-        return switch (call) {
-            case "one" -> gates.one(a[0]);
-            case "gate" -> gates.gate(a[0], a[1]);
-            case "ahead" -> gates.ahead(a[0], a[1]);
-            case "times" -> gates.times(a[0], a[1], a[2]);
-            case "turn" -> gates.turn(a[0]);
-            case "part" -> gates.part(a[0], a[1], a[2], a[3]);
-            case "e" -> gates.e(a[0]);
-            case "phase" -> gates.phase(a[0], a[1]);
-            case "channel" -> gates.channel(a[0], a[1], a[2], a[3]);
-            case "count" -> gates.count(a[0]);
-            case "clifford" -> gates.clifford(a[0]);
-            case "take" -> gates.take(a[0], a[1]);
-            case "leads" -> gates.leads(a[0], a[1]);
-            case "price" -> gates.price(a[0], a[1]);
-            case "cheapest" -> gates.cheapest(a[0], a[1]);
-            case "push" -> gates.push(a[0], a[1]);
-            case "pull" -> gates.pull(a[0]);
-            case "word" -> gates.word(a[0], a[1]);
-            case "value" -> gates.value(a[0], a[1]);
-            case "shorter" -> gates.shorter(a[0]);
-            case "normal" -> gates.normal(a[0], a[1]);
-            case "fits" -> gates.fits(a[0], a[1], a[2]);
-            case "parts" -> gates.parts(a[0], a[1]);
-            case "undo" -> gates.undo();
-            case "feed" -> gates.feed(a[0]);
-            case "wipe" -> gates.wipe();
-            case "write" -> gates.write(a[0]);
-            case "image" -> gates.image();
-            case "restore" -> gates.restore();
-            case "told" -> gates.told(a[0]);
-            default -> throw new IllegalArgumentException(call);
-        };
+        due.is(name + ", call " + made + ": " + call + Arrays.toString(a), Calls.answer(gates, call, a), model.call(call, a));
     }
 }
