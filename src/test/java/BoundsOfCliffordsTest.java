@@ -111,8 +111,8 @@ public final class BoundsOfCliffordsTest {
         due.is("S at 0, 1", g.channel(0, 0, 1, 0), -1);
         due.is("S at 1, 0", g.channel(0, 1, 0, 0), 1);
         due.is("S at 2, 2", g.channel(0, 2, 2, 0), 1);
-        due.about(10, "CHANNEL of a TABLE A: for i, j of 0, 1, 2: half of the sum of both places from the left above to "
-            + "the right below of P i times A times P j times A TURNED");
+        due.about(10, "CHANNEL of a TABLE A: for i, j of 0, 1, 2: half of the sum of both places from the left "
+            + "above to the right below of P i times A times P j times A TURNED");
         g.one(0);
         g.gate(0, H);
         due.is("H at 0, 2", g.channel(0, 0, 2, 0), 1);
@@ -257,7 +257,8 @@ public final class BoundsOfCliffordsTest {
 
     private static void leadsFirstAndLast() {
         RootGates g = new RootGates();
-        due.about(14, "To which CLIFFORD one comes from CLIFFORD k by H, S, X, Z, W (GATES 0, 2, 3, 4, 5) behind it. BAD.");
+        due.about(14, "To which CLIFFORD one comes from CLIFFORD k by H, S, X, Z, W (GATES 0, 2, 3, 4, 5) behind it. "
+            + "BAD.");
         for (int k : new int[] {0, 191}) {
             for (int gate : PLAIN) {
                 g.take(1, k);
@@ -272,7 +273,8 @@ public final class BoundsOfCliffordsTest {
 
     private static void leadsByPlainGatesAlone() {
         RootGates g = new RootGates();
-        due.about(14, "To which CLIFFORD one comes from CLIFFORD k by H, S, X, Z, W (GATES 0, 2, 3, 4, 5) behind it. BAD.");
+        due.about(14, "To which CLIFFORD one comes from CLIFFORD k by H, S, X, Z, W (GATES 0, 2, 3, 4, 5) behind it. "
+            + "BAD.");
         due.is("leads(0, T)", g.leads(0, T), RootGates.BAD);
         due.is("leads(0, U)", g.leads(0, U), RootGates.BAD);
         for (int bad : Bench.NO_GATES) {
@@ -406,7 +408,8 @@ public final class BoundsOfCliffordsTest {
     }
 
     private static void cheapestOfAll() {
-        due.about(16, "the one of least COST, of like ones of fewest GATES, of like ones the first by numbers of GATES");
+        due.about(16, "the one of least COST, of like ones of fewest GATES, of like ones the first by numbers of "
+            + "GATES");
         asInModel(new int[] {1, 1, 1, 1, 1, 1, 1});
         asInModel(new int[] {0, 1, 9, 0, 9, 9, 1});
         asInModel(new int[] {9, 0, 0, 9, 9, 9, 0});

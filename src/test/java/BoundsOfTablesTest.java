@@ -1,4 +1,4 @@
-/** Each sentence that names a boundary, promises 1 to 9: a new object, one, gate, ahead, times, turn, part, e, phase. */
+/** Each sentence that names a boundary, promises 1 to 9: a new object, registers and what is made of them. */
 public final class BoundsOfTablesTest {
     private static final int H = 0, T = 1, S = 2, X = 3, Z = 4, W = 5, U = 6;
     private static final String UNIT = "0: | 1 0 0 0 | 0 0 0 0 | 0 0 0 0 | 1 0 0 0";
@@ -135,8 +135,8 @@ public final class BoundsOfTablesTest {
         RootGates g = new RootGates();
         for (int gate = 0; gate < 7; gate++) {
             g.one(0);
-            due.about(3, "GATES: 0 H: 1, 1 and 1, -1, E 1. 1 T: 1, 0 and 0, w. 2 S: 1, 0 and 0, ww. 3 X: 0, 1 and 1, 0. "
-                + "4 Z: 1, 0 and 0, -1. 5 W: w, 0 and 0, w. 6 U: T TURNED. (E 0 but of H.)");
+            due.about(3, "GATES: 0 H: 1, 1 and 1, -1, E 1. 1 T: 1, 0 and 0, w. 2 S: 1, 0 and 0, ww. "
+                + "3 X: 0, 1 and 1, 0. 4 Z: 1, 0 and 0, -1. 5 W: w, 0 and 0, w. 6 U: T TURNED. (E 0 but of H.)");
             due.is("gate(0, " + gate + ")", g.gate(0, gate), gate == H ? 1 : 0);
             due.isText("gate " + gate, Bench.table(g, 0), tables[gate]);
             g.one(0);
@@ -227,7 +227,8 @@ public final class BoundsOfTablesTest {
 
     private static long[] productOf(long[] n, long[] m) {
         return new long[] {n[0] * m[0] - n[1] * m[3] - n[2] * m[2] - n[3] * m[1],
-            n[0] * m[1] + n[1] * m[0] - n[2] * m[3] - n[3] * m[2], n[0] * m[2] + n[1] * m[1] + n[2] * m[0] - n[3] * m[3],
+            n[0] * m[1] + n[1] * m[0] - n[2] * m[3] - n[3] * m[2],
+            n[0] * m[2] + n[1] * m[1] + n[2] * m[0] - n[3] * m[3],
             n[0] * m[3] + n[1] * m[2] + n[2] * m[1] + n[3] * m[0]};
     }
 
@@ -496,7 +497,8 @@ public final class BoundsOfTablesTest {
         RootGates g = new RootGates();
         Bench.make(g, 0, "HT");
         Bench.make(g, 1, "HT");
-        due.about(9, "PHASE of one by another: the least j (0 .. 7) by which W's VALUE, j times, times the other is the one.");
+        due.about(9, "PHASE of one by another: the least j (0 .. 7) by which W's VALUE, j times, times the other is "
+            + "the one.");
         for (int j = 0; j <= 16; j++) {
             due.is("phase(0, 1) of w, " + j + " times", g.phase(0, 1), j % 8);
             due.is("phase(1, 0)", g.phase(1, 0), (16 - j) % 8);

@@ -266,7 +266,8 @@ public final class BoundsOfTextsTest {
     }
 
     private static void faultAtFirstByte() {
-        due.about(28, "FAULT: the first byte with which no such text goes on, or the length, if it ends too early: -100 less it.");
+        due.about(28, "FAULT: the first byte with which no such text goes on, or the length, if it ends too early: "
+            + "-100 less it.");
         isRefused("?", -100);
         isRefused("H?", -101);
         isRefused("H??", -101);
@@ -296,7 +297,8 @@ public final class BoundsOfTextsTest {
     /** Each byte behind each kind of beginning: whether a text goes on with it. */
     private static void faultOfEachByte() {
         due.about(28, "the first byte with which no such text goes on");
-        for (String start : new String[] {"", "H", "~", "(", "(H", "(~", "(H)", "(H)2", "((((", "((((H", "((((H)", "~(H)"}) {
+        String[] starts = {"", "H", "~", "(", "(H", "(~", "(H)", "(H)2", "((((", "((((H", "((((H)", "~(H)"};
+        for (String start : starts) {
             for (int letter = 32; letter <= 126; letter++) {
                 String text = start + (char) letter;
                 boolean goesOn = Model.goesOn(text);
@@ -345,7 +347,8 @@ public final class BoundsOfTextsTest {
     }
 
     private static void fullOfTurned() {
-        due.about(28, "FULL by what ~ makes, too, and on the way, though a figure 0 follows; a FAULT goes ahead of FULL.");
+        due.about(28, "FULL by what ~ makes, too, and on the way, though a figure 0 follows; a FAULT goes ahead of "
+            + "FULL.");
         isText("~(" + "S".repeat(30) + ")", "SZ".repeat(30));
         isRefused("~(" + "S".repeat(31) + ")", RootGates.FULL);
         isText("~(W)8HHHH", "W".repeat(56) + "HHHH");
@@ -415,7 +418,8 @@ public final class BoundsOfTextsTest {
     private static void nothingComesToTheNext() {
         due.about(28, "THE TAPE is empty behind each call that reads it, by a FAULT and by FULL, too.");
         RootGates g = new RootGates();
-        for (String text : new String[] {"((~~~W", "((~~~W))", "~(~((HTSXZWU)9))", "(((~(HTSXZWU)9)))2", "~(", "((((H"}) {
+        String[] refused = {"((~~~W", "((~~~W))", "~(~((HTSXZWU)9))", "(((~(HTSXZWU)9)))2", "~(", "((((H"};
+        for (String text : refused) {
             due.isTrue("refused: " + text, Bench.write(g, 0, text) < 0);
             due.is("write of (T)2S behind " + text, Bench.write(g, 0, "(T)2S"), 3);
             due.isText("word 0 behind " + text, Bench.word(g, 0), "TTS");

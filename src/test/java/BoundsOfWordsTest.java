@@ -217,7 +217,8 @@ public final class BoundsOfWordsTest {
     private static void shorterByEachRule() {
         String[] rules = {"HH", "", "XX", "", "ZZ", "", "TU", "", "UT", "", "TT", "S", "UU", "SZ", "SS", "Z", "SU", "T",
             "US", "T"};
-        due.about(21, "H H, X X, Z Z, T U, U T, and eight W's one behind another: they go; T T: S stands for them; U U: S Z; S S: Z; S U, U S: T.");
+        due.about(21, "H H, X X, Z Z, T U, U T, and eight W's one behind another: they go; T T: S stands for them; U "
+            + "U: S Z; S S: Z; S U, U S: T.");
         for (char first : Bench.LETTERS.toCharArray()) {
             for (char second : Bench.LETTERS.toCharArray()) {
                 String pair = "" + first + second;
@@ -477,7 +478,8 @@ public final class BoundsOfWordsTest {
 
     private static void fitsOfEachGate() {
         RootGates g = Bench.with("HTXHT");
-        due.about(23, "GATES (bits) which, were each at place i of a WORD, would make its VALUE the TABLE of a REGISTER");
+        due.about(23, "GATES (bits) which, were each at place i of a WORD, would make its VALUE the TABLE of a "
+            + "REGISTER");
         for (int place = 0; place < 5; place++) {
             for (int gate = 0; gate < 7; gate++) {
                 StringBuilder gates = new StringBuilder("HTXHT");

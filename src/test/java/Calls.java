@@ -1,9 +1,9 @@
 /** The calls of the face by their names, for tests that ask an object and the model the same. */
 final class Calls {
-    /** Each name with the ends of its arguments' ranges: the least and the most that are no refusal of a number. */
     static final String[] NAMES = {"one", "gate", "ahead", "times", "turn", "part", "e", "phase", "channel", "count",
         "clifford", "take", "leads", "price", "cheapest", "push", "pull", "word", "value", "shorter", "normal", "fits",
         "parts", "undo", "feed", "wipe", "write", "image", "restore", "told"};
+    /** Of each call the ends of its arguments' ranges: the least and the most of each argument, or what is near them. */
     static final int[][] RANGES = {{0, 3}, {0, 3, 0, 6}, {0, 3, 0, 6}, {0, 3, 0, 3, 0, 3}, {0, 3},
         {0, 3, 0, 1, 0, 1, 0, 3}, {0, 3}, {0, 3, 0, 3}, {0, 3, 0, 2, 0, 2, 0, 1}, {0, 3}, {0, 3}, {0, 3, 0, 191},
         {0, 191, 0, 6}, {0, 6, 0, 9}, {0, 191, -2, 3}, {0, 2, 0, 6}, {0, 2}, {0, 2, -2, 60}, {0, 3, 0, 2}, {0, 2},

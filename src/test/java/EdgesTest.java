@@ -114,8 +114,8 @@ public final class EdgesTest {
         if (areFew) {
             return new int[] {least - 1, least, most, most + 1, Integer.MIN_VALUE, Integer.MAX_VALUE};
         }
-        return new int[] {Integer.MIN_VALUE, Integer.MIN_VALUE + 1, least - 2, least - 1, least, least + 1, most - 1, most,
-            most + 1, most + 2, Integer.MAX_VALUE - 1, Integer.MAX_VALUE};
+        return new int[] {Integer.MIN_VALUE, Integer.MIN_VALUE + 1, least - 2, least - 1, least, least + 1, most - 1,
+            most, most + 1, most + 2, Integer.MAX_VALUE - 1, Integer.MAX_VALUE};
     }
 
     /** Nothing wears out: a run of mixed calls, its 512th answer as due as its first. */

@@ -189,6 +189,7 @@ public final class ModelTest {
             return;
         }
         made++;
-        due.is(name + ", call " + made + ": " + call + Arrays.toString(a), Calls.answer(gates, call, a), model.call(call, a));
+        due.is(name + ", call " + made + ": " + call + Arrays.toString(a), Calls.answer(gates, call, a),
+            model.call(call, a));
     }
 }

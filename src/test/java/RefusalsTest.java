@@ -100,7 +100,8 @@ public final class RefusalsTest {
     }
 
     private static void partIsVoid(Call call) {
-        isRefused(7, "Of a REGISTER's NUMBER in a row and column a, b, c, d (i 0 .. 3). VOID: BAD.", RootGates.VOID, call);
+        isRefused(7, "Of a REGISTER's NUMBER in a row and column a, b, c, d (i 0 .. 3). VOID: BAD.", RootGates.VOID,
+            call);
     }
 
     private static void channelIsVoid(Call call) {

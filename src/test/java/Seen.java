@@ -1,4 +1,4 @@
-/** All that can be seen of an object behind some calls; each look has an object of its own, so that none spoils another. */
+/** All that can be seen of an object behind some calls; each look has an object of its own, as some spoil others. */
 final class Seen {
     interface Calls {
         void on(RootGates g);

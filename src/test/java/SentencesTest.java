@@ -22,8 +22,8 @@ public final class SentencesTest {
     private static final Pattern LITERAL = Pattern.compile("\"([^\"]*)\"");
     /** What stands between sentences, and says no more than which word they are about. */
     private static final List<String> BETWEEN = List.of("## Terms", ". ```text", ". ``` ======== 2",
-        "```text CHEAPEST word of a CLIFFORD:", ". NORMAL form of a TABLE:", ". SHORTER is made a WORD by RULES:", "FITS:",
-        ". PARTS of two WORDS:", ". ``` ======== 3", "```text CHANGES:", "``` ANSWERS that are refusals (",
+        "```text CHEAPEST word of a CLIFFORD:", ". NORMAL form of a TABLE:", ". SHORTER is made a WORD by RULES:",
+        "FITS:", ". PARTS of two WORDS:", ". ``` ======== 3", "```text CHANGES:", "``` ANSWERS that are refusals (",
         "======== SO THAT NOTHING IS READ TWO WAYS. \"And\" between two numbers, \"together\": their sum.");
     private static final Due due = new Due();
 
