@@ -165,7 +165,8 @@ public final class BoundsOfTablesTest {
 
     private static void eighthRoot() {
         RootGates g = new RootGates();
-        due.about(3, "a and b times w, c times ww, d times www, together, wwww being -1.");
+        due.about(3, "1 NUMBERS (a, b, c, d): whole; a and b times w, c times ww, d times www, together, "
+            + "wwww being -1.");
         for (int i = 1; i <= 8; i++) {
             g.gate(0, W);
             g.gate(1, T);

@@ -121,7 +121,8 @@ public final class EdgesTest {
     /** Nothing wears out: a run of mixed calls, its 512th answer as due as its first. */
     private static void lastCall() {
         Random random = new Random(512);
-        due.about(1, "An object is used for at most 512 calls after it has been made");
+        due.about(1, "An object is used for at most 512 calls after it has been made; "
+            + "what later calls answer is free.");
         for (int run = 0; run < 20; run++) {
             EdgesTest test = new EdgesTest(0);
             while (test.made < CALLS - 1) {

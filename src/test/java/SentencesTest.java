@@ -9,19 +9,21 @@ import java.util.regex.Pattern;
 
 /**
  * The tests of boundaries name a promise and quote a sentence with each answer: every promise is named, every quote
- * stands in the document, and no sentence of the document is left unquoted.
+ * stands in the document, and no sentence of the document, from its first line on, is left unquoted. (FaceTest has the
+ * face.)
  */
 public final class SentencesTest {
     private static final Path DOCUMENT = Path.of("../shared/DOC.md");
     private static final Path TESTS = Path.of("src/test/java");
     private static final String[] QUOTING = {"BoundsOfTablesTest", "BoundsOfCliffordsTest", "BoundsOfWordsTest",
-        "BoundsOfTextsTest", "BoundsOfChangesTest", "RefusalsTest", "EdgesTest"};
+        "BoundsOfTextsTest", "BoundsOfChangesTest", "RefusalsTest", "EdgesTest", "OverviewTest"};
     private static final int PROMISES = 31;
     private static final Pattern QUOTE = Pattern.compile(
         "(?:about|isBad|isRefused|isRefusedBehind)\\((\\d+),\\s*((?:\"[^\"]*\"\\s*\\+?\\s*)+)");
     private static final Pattern LITERAL = Pattern.compile("\"([^\"]*)\"");
     /** What stands between sentences, and says no more than which word they are about. */
-    private static final List<String> BETWEEN = List.of("## Terms", ". ```text", ". ``` ======== 2",
+    private static final List<String> BETWEEN = List.of("# RootGates ## What it is", ". ========", "## Terms",
+        ". ```text", ". ``` ======== 2",
         "```text CHEAPEST word of a CLIFFORD:", ". NORMAL form of a TABLE:", ". SHORTER is made a WORD by RULES:",
         "FITS:", ". PARTS of two WORDS:", ". ``` ======== 3", "```text CHANGES:", "``` ANSWERS that are refusals (",
         "======== SO THAT NOTHING IS READ TWO WAYS. \"And\" between two numbers, \"together\": their sum.");
@@ -48,11 +50,13 @@ public final class SentencesTest {
         for (String quote : quotes) {
             due.isTrue("stands in the document: " + quote, document.contains(quote));
         }
-        int begin = document.indexOf("## Terms");
+        int face = document.indexOf("## The public face");
+        int terms = document.indexOf("## Terms");
         int end = document.indexOf("## Not promised");
-        due.isTrue("the document has its parts", begin >= 0 && end > begin);
-        if (begin >= 0 && end > begin) {
-            allIsQuoted(document.substring(begin, end), quotes);
+        due.isTrue("the document has its parts", face > 0 && terms > face && end > terms);
+        if (face > 0 && terms > face && end > terms) {
+            allIsQuoted(document.substring(0, face), quotes);
+            allIsQuoted(document.substring(terms, end), quotes);
         }
     }
 
